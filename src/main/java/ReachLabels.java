@@ -542,22 +542,21 @@ public final class ReachLabels {
             tokenStart = at;
             if (at >= length) {
                 token = END;
-            } else if (isDigit(letters[at])) {
-                readDigits();
-            } else {
-                token = isSign(letters[at]) ? letters[at] : WRONG;
-                at++;
+                return;
             }
-        }
-
-        private void readDigits() {
-            value = 0;
+            int first = letters[at];
+            at++;
+            if (!isDigit(first)) {
+                token = isSign(first) ? first : WRONG;
+                return;
+            }
+            value = first - '0';
             while (at < length && isDigit(letters[at])) {
                 // Held just above the greatest one, so that no row of digits wraps round to a small number.
                 value = Math.min(10 * value + letters[at] - '0', GREATEST_NUMBER + 1);
                 at++;
             }
-            boolean zeroAhead = letters[tokenStart] == '0' && at - tokenStart > 1;
+            boolean zeroAhead = first == '0' && at - tokenStart > 1;
             token = zeroAhead || value > GREATEST_NUMBER ? WRONG : NUMBER;
         }
 
@@ -753,18 +752,15 @@ public final class ReachLabels {
     private static final class Walks {
         private final int[] farOff = new int[MOST_NODES];
 
-        /** How many EDGES, or NONE; farOff has then, by how many EDGES they are off, NODES before the end. */
+        /** How many EDGES, or NONE; farOff has then, by numbers of EDGES, from where so many lead to the end. */
         int shortest(Net net, int u, int v) {
-            farOff[0] = bit(v);
-            int met = farOff[0];
+            int leading = bit(v);
             for (int edges = 0; edges < net.nodes; edges++) {
-                if (holds(farOff[edges], u)) {
+                farOff[edges] = leading;
+                if (holds(leading, u)) {
                     return edges;
                 }
-                if (edges + 1 < net.nodes) {
-                    farOff[edges + 1] = leadingTo(net, farOff[edges]) & ~met;
-                    met |= farOff[edges + 1];
-                }
+                leading = leadingTo(net, leading);
             }
             return NONE;
         }
